@@ -170,7 +170,7 @@ public final class LacedHoles {
 
     public int take(int holes, long number) throws IllegalArgumentException {
         needRoundOf(holes);
-        return adoptNumbered(holes, number);
+        return counter.unrank(boot, holes, number, draft) ? adoptDraft() : NONE;
     }
 
     public int best(int holes, int what) throws IllegalArgumentException {
@@ -348,7 +348,8 @@ public final class LacedHoles {
         if (all < 1) {
             return NONE;
         }
-        return adoptNumbered(whole, (seed & Integer.MAX_VALUE) / 2 % all);
+        long number = (seed & Integer.MAX_VALUE) / 2 % all;
+        return counter.unrank(boot, whole, number, draft) ? adoptDraft() : NONE;
     }
 
     // ---- images
@@ -410,10 +411,6 @@ public final class LacedHoles {
     private int adoptDraft() {
         scene.way.become(draft);
         return scene.way.size;
-    }
-
-    private int adoptNumbered(int holes, long number) {
-        return counter.unrank(boot, holes, number, draft) ? adoptDraft() : NONE;
     }
 
     private boolean fitsLace(int holes) {
@@ -731,9 +728,10 @@ public final class LacedHoles {
 
         /** The hole that this one becomes; only where isEven. */
         int imageOf(int hole, boolean turned, boolean mirrored) {
-            int place = turned ? left - 1 - inRow(hole) : inRow(hole);
-            int newRow = mirrored ? 1 - row(hole) : row(hole);
-            return newRow * left + place;
+            int row = hole < left ? 0 : 1;
+            int place = hole - row * left;
+            int newRow = mirrored ? 1 - row : row;
+            return newRow * left + (turned ? left - 1 - place : place);
         }
     }
 
@@ -1518,7 +1516,7 @@ public final class LacedHoles {
         int unlikeRounds(Boot boot) {
             pattern.clear();
             purpose = IMAGES;
-            goOn(boot, 1, begin(boot.whole()));
+            goOn(boot, 1, begin(boot.whole()), NONE, true);
             // Of rounds that are alike, the images that are the round itself make four together.
             return images / 4;
         }
@@ -1529,7 +1527,8 @@ public final class LacedHoles {
             }
             pattern.become(picture);
             purpose = COUNT;
-            goOn(boot, 1, begin(picture.bits));
+            // Of both directions that one is counted which begins with a span of the picture.
+            goOn(boot, 1, begin(picture.bits), NONE, false);
             return found;
         }
 
@@ -1539,7 +1538,7 @@ public final class LacedHoles {
             }
             pattern.become(picture);
             purpose = FIRST;
-            goOn(boot, 1, begin(picture.bits));
+            goOn(boot, 1, begin(picture.bits), NONE, true);
             if (found == 0) {
                 return false;
             }
@@ -1560,47 +1559,32 @@ public final class LacedHoles {
             return purpose == FIRST && found > 0;
         }
 
-        private void goOn(Boot boot, int depth, int rest) {
+        /** Goes on behind a hole come to by across: by any span, if free, or by that of the picture. */
+        private void goOn(Boot boot, int depth, int rest, int across, boolean free) {
+            int last = round.hole(depth - 1);
             if (rest == 0 || depth >= MOST_HOLES) {
-                comeHome(boot);
+                comeHome(boot, last, across);
                 return;
             }
-            for (int hole = 1; hole < MOST_HOLES && !isOver(); hole++) {
-                if ((rest >> hole & 1) != 0 && mayFollow(boot, depth, hole)) {
+            int partner = pattern.partner(last);
+            int open = free ? rest : partner == NONE ? 0 : rest & 1 << partner;
+            for (int left = open; left != 0 && !isOver(); left &= left - 1) {
+                int hole = Integer.numberOfTrailingZeros(left);
+                int next = boot.across(last, hole);
+                if (across == NONE || boot.allows(across, next)) {
                     round.setHole(depth, hole);
-                    goOn(boot, depth + 1, rest & ~(1 << hole));
+                    // Each hole has one span of the picture: behind another one there is no choice.
+                    goOn(boot, depth + 1, rest & ~(1 << hole), next, pattern.pairs == 0 || partner == hole);
                 }
             }
         }
 
-        private boolean mayFollow(Boot boot, int depth, int hole) {
-            if (depth == 1) {
-                return true;
-            }
-            int last = round.hole(depth - 1);
-            int before = boot.across(round.hole(depth - 2), last);
-            return boot.allows(before, boot.across(last, hole)) && fitsPattern(depth, hole);
-        }
-
-        /** Whether just one of the two spans at the hole ahead of depth is of the pattern. */
-        private boolean fitsPattern(int depth, int hole) {
-            if (pattern.pairs == 0) {
-                return true;
-            }
-            int partner = pattern.partner(round.hole(depth - 1));
-            return (partner == round.hole(depth - 2)) != (partner == hole);
-        }
-
-        private void comeHome(Boot boot) {
+        private void comeHome(Boot boot, int last, int across) {
             int start = round.hole(0);
             int second = round.hole(1);
-            int last = round.size - 1;
-            int home = boot.across(round.hole(last), start);
-            boolean told = second < round.hole(last);
-            boolean lawful = mayFollow(boot, last + 1, start) && boot.allows(home, boot.across(start, second));
-            int partner = pattern.partner(start);
-            boolean seen = pattern.pairs == 0 || (partner == second) != (partner == round.hole(last));
-            if (told && lawful && seen) {
+            int home = boot.across(last, start);
+            boolean lawful = boot.allows(across, home) && boot.allows(home, boot.across(start, second));
+            if (lawful && (purpose == COUNT || second < last)) {
                 found++;
                 images += purpose == IMAGES ? round.selfImages(boot) : 0;
             }
