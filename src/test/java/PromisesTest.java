@@ -138,6 +138,11 @@ public final class PromisesTest {
             is("sums(" + what + ")", x.sums(what), 0);
         }
         is("NONE", LacedHoles.NONE, -1);
+        is("fault", x.fault(), -1);
+        is("count", x.count(63), 60);
+        is("two", x.two(63), 400000);
+        is("leave", x.leave(), 0);
+        is("too short", x.tooShort(), 0);
         promise = 2;
         for (int i = 1; i <= 20; i++) {
             is("feed", x.feed(0x6c617720, 0x313b2020, 0x20202020, 0x20202020, 0x20202020), 20 * i);
@@ -201,6 +206,9 @@ public final class PromisesTest {
         bootFault("Law 1;", -9, 0);
         bootFault(" laws 1;", -9, 1);
         bootFault("la 1;", -9, 0);
+        bootFault("lawz 1;", -9, 0);
+        bootFault("alaw 1;", -9, 0);
+        bootFault("mace 1;", -9, 0);
         bootFault("law", -9, 3);
         bootFault("law  ", -9, 5);
         bootFault("law 1", -9, 5);
@@ -382,6 +390,9 @@ public final class PromisesTest {
         is("strongest by law", x.best(15, 2), 2000000);
         is("none", x.best(7, 0), -1);
         holesAre(x, 0, 1, 3, 2);
+        boot(x, "rows 3 3;apart 30 40;");
+        is("of the left row", x.best(7, 0), 160000);
+        is("of the right row", x.best(56, 0), 160000);
         boot(x, "rows 6 1;apart 30 20;");
         is("alike ones: the first", x.best(63, 0), 200000);
         holesAre(x, 0, 1, 2, 3, 4, 5);
@@ -413,6 +424,8 @@ public final class PromisesTest {
         is("leave: an end, that of the least bits", x.leave(), 1 + 8);
         boot(x, "rows 4 1;apart 99 1;lace 6;");
         is("leave the right one", x.leave(), 16);
+        boot(x, "rows 4 1;apart 99 1;lace 200;");
+        is("leave one rather than two of less bits", x.leave(), 16);
         boot(x, "rows 4 1;apart 99 1;lace 6;torn 4;");
         is("torn ones are not left out", x.leave(), 0);
         boot(x, "rows 2 2;apart 1 1;lace 1;");
@@ -641,8 +654,15 @@ public final class PromisesTest {
         is("four for 10 weeks", x.weeks(10, 0), 9);
         is("their row", x.weeks(10, 1), 1030303);
         is("four for 1 week", x.weeks(1, 1), 1);
-        way(x, "0 6 1");
-        is("weeks ask the kept ones alone", x.weeks(10, 1), 1030303);
+        x.drop();
+        way(x, "0 6 1 7");
+        x.keep();
+        way(x, "0 1 7 6");
+        x.keep();
+        is("all weeks for the first", x.weeks(3, 1), 300);
+        is("its wear", x.weeks(3, 0), 3);
+        way(x, "0 6 2");
+        is("weeks ask the kept ones alone", x.weeks(3, 1), 300);
     }
 
     private static void drawn() {
@@ -653,6 +673,8 @@ public final class PromisesTest {
             is("draw " + row[0], x.draw(row[0]), 4);
             is("number by " + row[0], x.number(), row[1]);
         }
+        boot(x, "rows 2 1;");
+        is("draw of 3", x.draw(99), 3);
         boot(x, "rows 1 1;");
         is("draw of 2", x.draw(1), -1);
         boot(x, "rows 2 1;law 2;");
