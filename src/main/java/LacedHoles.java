@@ -348,7 +348,7 @@ public final class LacedHoles {
         if (all < 1) {
             return NONE;
         }
-        long number = (seed & Integer.MAX_VALUE) / 2 % all;
+        long number = (seed & 0x7fffffff) / 2 % all;
         return counter.unrank(boot, whole, number, draft) ? adoptDraft() : NONE;
     }
 
@@ -736,11 +736,10 @@ public final class LacedHoles {
     }
 
     /**
-     * Lengths in units of 2 to the power -48 and pulls in units of 2 to the power -58, each span cut, so that a
-     * sum of up to 24 is less than 32 units off. src/test/java/RootsApart.java goes through all
-     * boots and shows that sums which are not equal, and sums and the whole, thousandth or
-     * millionth parts that they are set against, lie more than 2 times SLACK apart: so sums
-     * within SLACK are equal exactly.
+     * Lengths in units of 2 to the power -48 and pulls in units of 2 to the power -58, each span
+     * cut, so that a sum of up to 24 is less than 32 units off. RootsApartTest goes through all
+     * boots and shows that sums, and the whole, thousandth and millionth parts that they are set
+     * against, are equal or lie more than four times SLACK apart: what is within SLACK is equal.
      */
     private static final class Roots {
         private static final int LENGTH_BITS = 48;
@@ -1305,7 +1304,7 @@ public final class LacedHoles {
      * first span go across; where there is no law, both count as 0.
      */
     private static final class Finder {
-        static final long FAR = Long.MAX_VALUE;
+        static final long FAR = 0x7fffffffffffffffL;
         private static final int SETS = 1 << MOST_HOLES;
 
         private final long[] cells = new long[SETS * MOST_HOLES * 4];
@@ -1601,7 +1600,7 @@ public final class LacedHoles {
             for (int hole = 0; hole < MOST_HOLES; hole++) {
                 Rows.set(wears, hole, 0);
             }
-            leastWear = Integer.MAX_VALUE;
+            leastWear = 0x7fffffff;
             bestDigits = 0;
             shareFrom(scene, 0, weeks, 0);
         }
