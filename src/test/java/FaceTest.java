@@ -4,7 +4,6 @@ import java.lang.reflect.Modifier;
 import java.nio.file.Files;
 import java.nio.file.Path;
 import java.util.Arrays;
-import java.util.List;
 import java.util.Set;
 import java.util.TreeSet;
 import java.util.regex.Matcher;
@@ -29,9 +28,14 @@ public final class FaceTest {
         "int knot(int,int) NoSuchElementException,IllegalArgumentException",
         "int wear(int) IndexOutOfBoundsException,NoSuchElementException"};
     private static final String[] RULED_OUT = {
-        "->", "::", "\\bcatch\\b", "\\bfinally\\b", "\\bsynchronized\\b", "\\bassert\\b", "\\bdouble\\b", "\\bfloat\\b",
-        "\\bSystem\\.(?!arraycopy)", "\\w+Exact\\b", "\\bequals\\b", "\\bhashCode\\b", "\\btoString\\b", "@\\w+",
-        "\\bString\\.", "\\bstatic \\{", "\\b(protected|volatile|transient|native)\\b", "[^\\x00-\\x7f]"};
+        "(?m)^(?!.*\\b(case|default)\\b).*->", "::", "\\bfinally\\b", "\\bsynchronized\\b", "\\bassert\\b",
+        "\\bSystem\\.(?!arraycopy)", "\\w+Exact\\b", "\\bboolean equals\\(", "\\bint hashCode\\(", "\\bString toString\\(",
+        "\\bString\\.", "\\bstatic \\{", "\\bprotected\\b", "\\bgetMessage\\b", "[^\\x00-\\x7f]",
+        // What the machine throws by itself answers no call.
+        "\\bcatch \\([^)]*\\b(Throwable|Exception|Error|ArrayIndexOutOfBoundsException|NullPointerException"
+            + "|ClassCastException|NegativeArraySizeException|ArrayStoreException)\\b"};
+    private static final Set<String> LIBRARY = Set.of("java.util.ArrayList", "java.util.Arrays", "java.util.Iterator",
+        "java.util.List", "java.util.NoSuchElementException");
 
     private static int wrong = 0;
 
@@ -58,7 +62,16 @@ public final class FaceTest {
         return text.toString();
     }
 
-    private static void checkFace() {
+    private static void checkFace() throws Exception {
+        if (!Modifier.isFinal(LacedHoles.class.getModifiers()) || !Modifier.isPublic(LacedHoles.class.getModifiers())) {
+            fault("the class is not public and final");
+        }
+        if (LacedHoles.class.getConstructors().length != 1 || LacedHoles.class.getConstructor() == null) {
+            fault("other constructors than the one");
+        }
+        if (LacedHoles.class.getField("NONE").getInt(null) != -1) {
+            fault("NONE");
+        }
         Set<String> found = new TreeSet<>();
         for (Method method : LacedHoles.class.getDeclaredMethods()) {
             if (!Modifier.isPrivate(method.getModifiers())) {
@@ -82,17 +95,10 @@ public final class FaceTest {
             open.add(line.substring(line.indexOf(' ') + 1, line.indexOf('(')));
         }
         for (Class<?> inner : LacedHoles.class.getDeclaredClasses()) {
-            if (!Modifier.isStatic(inner.getModifiers()) || !Modifier.isPrivate(inner.getModifiers())) {
+            if (Modifier.isPublic(inner.getModifiers()) || Modifier.isProtected(inner.getModifiers())) {
                 fault("class " + inner);
             }
-            for (Method method : inner.getDeclaredMethods()) {
-                if (open.contains(method.getName())) {
-                    fault("name of a public method: " + method);
-                }
-                if (method.getParameterCount() > 7) {
-                    fault("parameters: " + method);
-                }
-            }
+            checkMethods(inner, open);
             for (Field field : inner.getDeclaredFields()) {
                 int kind = field.getModifiers();
                 if (Modifier.isStatic(kind) && !Modifier.isFinal(kind)) {
@@ -100,8 +106,20 @@ public final class FaceTest {
                 }
             }
         }
-        if (LacedHoles.class.getDeclaredClasses().length > 12) {
-            fault("more than 12 classes");
+        checkMethods(LacedHoles.class, open);
+        if (LacedHoles.class.getDeclaredClasses().length > 13) {
+            fault("more than some twelve classes");
+        }
+    }
+
+    private static void checkMethods(Class<?> owner, Set<String> open) {
+        for (Method method : owner.getDeclaredMethods()) {
+            if (Modifier.isPrivate(method.getModifiers()) && open.contains(method.getName())) {
+                fault("private method of a public one's name: " + method);
+            }
+            if (method.getParameterCount() > 7) {
+                fault("parameters: " + method);
+            }
         }
     }
 
@@ -115,7 +133,7 @@ public final class FaceTest {
         }
         Matcher imports = Pattern.compile("import ([^;]+);").matcher(code);
         while (imports.find()) {
-            if (!List.of("java.util.NoSuchElementException").contains(imports.group(1))) {
+            if (!LIBRARY.contains(imports.group(1))) {
                 fault("import " + imports.group(1));
             }
         }

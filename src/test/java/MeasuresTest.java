@@ -36,8 +36,7 @@ public final class MeasuresTest {
             roots[gap] = BigDecimal.valueOf((long) wide * wide + (long) gap * gap * step * step).sqrt(DIGITS);
         }
         String boot = "apart " + wide + " " + step + ";";
-        feed(x, boot);
-        int wrong = x.boot(boot.length()) == 12 ? 0 : 1;
+        int wrong = Texts.boot(x, boot) == 12 ? 0 : 1;
         for (int[] way : WAYS) {
             StringBuilder text = new StringBuilder();
             BigDecimal length = BigDecimal.ZERO;
@@ -51,8 +50,7 @@ public final class MeasuresTest {
                 pull = across ? pull.add(BigDecimal.valueOf(wide).divide(roots[gap], DIGITS)) : pull;
                 text.append(from).append(' ');
             }
-            feed(x, text.toString());
-            x.way(text.length());
+            Texts.way(x, text.toString());
             if (x.measure(0) != cut(length, 1000) || x.measure(1) != cut(pull, 1000000)) {
                 wrong++;
                 System.out.println(boot + " " + text + x.measure(0) + " " + x.measure(1) + ", due are " + length + " " + pull);
@@ -63,15 +61,5 @@ public final class MeasuresTest {
 
     private static int cut(BigDecimal value, int times) {
         return value.add(TINY).multiply(BigDecimal.valueOf(times)).setScale(0, RoundingMode.FLOOR).intValueExact();
-    }
-
-    private static void feed(LacedHoles x, String text) {
-        for (int i = 0; i < text.length(); i += 20) {
-            int[] p = new int[5];
-            for (int j = 0; j < 20; j++) {
-                p[j / 4] = p[j / 4] << 8 | (i + j < text.length() ? text.charAt(i + j) : 0);
-            }
-            x.feed(p[0], p[1], p[2], p[3], p[4]);
-        }
     }
 }

@@ -42,30 +42,10 @@ public final class PromisesTest {
         fails(what, IndexOutOfBoundsException.class, call);
     }
 
-    private static void feed(LacedHoles x, String text) {
-        for (int i = 0; i < text.length(); i += 20) {
-            int[] p = new int[5];
-            for (int j = 0; j < 20; j++) {
-                p[j / 4] = p[j / 4] << 8 | (i + j < text.length() ? text.charAt(i + j) : 'x');
-            }
-            x.feed(p[0], p[1], p[2], p[3], p[4]);
-        }
-    }
-
-    private static int boot(LacedHoles x, String text) {
-        feed(x, text);
-        return x.boot(text.length());
-    }
-
     private static LacedHoles booted(String text) {
         LacedHoles x = new LacedHoles();
-        is("boot " + text, boot(x, text) < 0 ? x.fault() : 1, 1);
+        is("boot " + text, Texts.boot(x, text) < 0 ? x.fault() : 1, 1);
         return x;
-    }
-
-    private static int way(LacedHoles x, String text) {
-        feed(x, text);
-        return x.way(text.length());
     }
 
     private static void holesAre(LacedHoles x, int... holes) {
@@ -77,11 +57,11 @@ public final class PromisesTest {
 
     private static void bootFault(String text, int answer, int place) {
         LacedHoles x = booted("rows 3 2;apart 5 6;law 1;lace 7;torn 4;");
-        way(x, "0 1 2");
+        Texts.way(x, "0 1 2");
         x.see(0, 1);
         x.keep();
         x.image();
-        is("boot '" + text + "'", boot(x, text), answer);
+        is("boot '" + text + "'", Texts.boot(x, text), answer);
         is("place in '" + text + "'", x.fault(), place);
         int[] told = {3, 2, 5, 6, 1, 7, 16, 3};
         for (int what = 0; what < told.length && answer < 0; what++) {
@@ -96,9 +76,9 @@ public final class PromisesTest {
 
     private static void wayFault(String text, int answer, int place) {
         LacedHoles x = booted("rows 6 6;torn 5;");
-        way(x, "0 1 2 3");
+        Texts.way(x, "0 1 2 3");
         x.keep();
-        is("way '" + text + "'", way(x, text), answer);
+        is("way '" + text + "'", Texts.way(x, text), answer);
         is("place in '" + text + "'", x.fault(), place);
         is("holes of the way", x.told(7), answer < 0 ? 4 : answer);
         is("kept ones stay", x.sums(0), 1);
@@ -174,13 +154,13 @@ public final class PromisesTest {
         is("fault", x.fault(), 100);
         badArgument("way(1)", () -> x.way(1));
         is("fault stays", x.fault(), 100);
-        is("way", way(x, " 3 02\u0020 001 "), 3);
+        is("way", Texts.way(x, " 3 02\u0020 001 "), 3);
         is("fault is gone", x.fault(), -1);
         holesAre(x, 3, 2, 1);
         promise = 6;
         badArgument("told(8)", () -> x.told(8));
         badArgument("told(-1)", () -> x.told(-1));
-        boot(x, "rows 4 3;torn 6;apart 1 2;torn 0;apart 99 98;law 2;law 1;lace 5;lace 9998;torn 6;");
+        Texts.boot(x, "rows 4 3;torn 6;apart 1 2;torn 0;apart 99 98;law 2;law 1;lace 5;lace 9998;torn 6;");
         int[] last = {4, 3, 99, 98, 1, 9998, 65, 0};
         for (int what = 0; what < last.length; what++) {
             is("told(" + what + ")", x.told(what), last[what]);
@@ -257,10 +237,10 @@ public final class PromisesTest {
         wayFault("012", -8, 0);
         wayFault("0 1 99999999999", -8, 4);
         LacedHoles x = new LacedHoles();
-        is("all holes", way(x, "0 1 2 3 4 5 6 7 8 9 10 11"), 12);
-        is("a 13th", way(x, "0 1 2 3 4 5 6 7 8 9 10 11 0"), -8);
+        is("all holes", Texts.way(x, "0 1 2 3 4 5 6 7 8 9 10 11"), 12);
+        is("a 13th", Texts.way(x, "0 1 2 3 4 5 6 7 8 9 10 11 0"), -8);
         is("its place", x.fault(), 26);
-        is("a sign for a 13th", way(x, "0 1 2 3 4 5 6 7 8 9 10 11 a"), -9);
+        is("a sign for a 13th", Texts.way(x, "0 1 2 3 4 5 6 7 8 9 10 11 a"), -9);
         is("the way stays", x.told(7), 12);
     }
 
@@ -279,7 +259,7 @@ public final class PromisesTest {
         is("as far as can be", booted("apart 99 99;").span(0, 11), 504802);
         promise = 8;
         is("at without a way", x.at(0), -1);
-        way(x, "3 1 0");
+        Texts.way(x, "3 1 0");
         holesAre(x, 3, 1, 0);
         is("at(3)", x.at(3), -1);
         is("at(-1)", x.at(-1), -1);
@@ -287,16 +267,16 @@ public final class PromisesTest {
         promise = 9;
         LacedHoles y = booted(RECTANGLE + "law 2;");
         noWay("judge", y::judge);
-        way(y, "1 2 0 3");
+        Texts.way(y, "1 2 0 3");
         is("against, as told from its first", y.judge(), 1);
-        way(y, "3 1 0 2");
+        Texts.way(y, "3 1 0 2");
         is("lawful", y.judge(), -1);
         LacedHoles z = booted("rows 3 3;law 1;");
-        way(z, "3 4 5 2 1 0");
+        Texts.way(z, "3 4 5 2 1 0");
         is("along at 4", z.judge(), 4);
-        way(z, "5 2 1 0 3 4");
+        Texts.way(z, "5 2 1 0 3 4");
         is("along at 1", z.judge(), 1);
-        way(z, "0 3 1 4 2 5");
+        Texts.way(z, "0 3 1 4 2 5");
         is("more than one across", z.judge(), -1);
     }
 
@@ -304,7 +284,7 @@ public final class PromisesTest {
         promise = 10;
         LacedHoles x = booted(RECTANGLE + "lace 14;");
         noWay("measure(9)", () -> x.measure(9));
-        way(x, "2 3 1 0");
+        Texts.way(x, "2 3 1 0");
         badArgument("measure(5)", () -> x.measure(5));
         badArgument("measure(-1)", () -> x.measure(-1));
         is("length", x.measure(0), 14000);
@@ -312,16 +292,16 @@ public final class PromisesTest {
         is("across", x.measure(2), 2);
         is("turns", x.measure(3), 0);
         is("as long as the lace", x.measure(4), 1);
-        way(x, "0 2 1 3");
+        Texts.way(x, "0 2 1 3");
         is("longer than the lace", x.measure(4), 0);
         is("across", x.measure(2), 4);
         is("pull", x.measure(1), 3200000);
         LacedHoles y = new LacedHoles();
-        way(y, "0 2 1 3 6 10");
+        Texts.way(y, "0 2 1 3 6 10");
         is("length", y.measure(0), 332522);
         is("pull", y.measure(1), 798337);
         is("turns", y.measure(3), 2);
-        way(y, "3 2 1");
+        Texts.way(y, "3 2 1");
         is("turns along one row", y.measure(3), 3);
         is("pull of none across", y.measure(1), 0);
     }
@@ -330,14 +310,14 @@ public final class PromisesTest {
         promise = 11;
         LacedHoles x = booted(RECTANGLE);
         noWay("number", x::number);
-        way(x, "3 1 2 0");
+        Texts.way(x, "3 1 2 0");
         is("number", x.number(), 2);
-        way(x, "3 2 1 0");
+        Texts.way(x, "3 2 1 0");
         is("number", x.number(), 0);
-        way(x, "1 3 2 0");
+        Texts.way(x, "1 3 2 0");
         is("number", x.number(), 1);
-        boot(x, RECTANGLE + "law 2;");
-        way(x, "0 2 1 3");
+        Texts.boot(x, RECTANGLE + "law 2;");
+        Texts.way(x, "0 2 1 3");
         is("number of no lawful one", x.number(), -1);
         promise = 12;
         LacedHoles y = booted("rows 6 6;torn 11;");
@@ -348,11 +328,11 @@ public final class PromisesTest {
         badArgument("count of all bits", () -> y.count(-1));
         badArgument("count of 2", () -> y.count(3));
         badArgument("count of none", () -> y.count(0));
-        boot(y, "law 1;");
+        Texts.boot(y, "law 1;");
         is("law 1 along", y.count(7), 0);
         is("law 1 of 3", y.count(1 + 2 + 64), 1);
         is("law 1 of all", y.count(4095), 3758400);
-        boot(y, "law 2;");
+        Texts.boot(y, "law 2;");
         is("law 2 of all", y.count(4095), 86400);
         is("law 2 of odd ones", y.count(2047), 0);
         promise = 13;
@@ -386,26 +366,26 @@ public final class PromisesTest {
         holesAre(x, 0, 2, 1, 3);
         is("of some", x.best(14, 2), 1600000);
         holesAre(x, 1, 2, 3);
-        boot(x, RECTANGLE + "law 2;");
+        Texts.boot(x, RECTANGLE + "law 2;");
         is("strongest by law", x.best(15, 2), 2000000);
         is("none", x.best(7, 0), -1);
         holesAre(x, 0, 1, 3, 2);
-        boot(x, "rows 3 3;apart 30 40;");
+        Texts.boot(x, "rows 3 3;apart 30 40;");
         is("of the left row", x.best(7, 0), 160000);
         is("of the right row", x.best(56, 0), 160000);
-        boot(x, "rows 6 1;apart 30 20;");
+        Texts.boot(x, "rows 6 1;apart 30 20;");
         is("alike ones: the first", x.best(63, 0), 200000);
         holesAre(x, 0, 1, 2, 3, 4, 5);
         promise = 15;
         LacedHoles y = booted("rows 4 4;apart 99 1;law 2;");
         noWay("against", y::against);
-        way(y, "0 1 2 3 7 6 5 4");
+        Texts.way(y, "0 1 2 3 7 6 5 4");
         is("shorter, not lawful", y.against(), -2);
         y.best(255, 0);
         is("as long", y.against(), 0);
         y.best(255, 1);
         is("longer", y.against(), 1);
-        way(y, "0 1 2");
+        Texts.way(y, "0 1 2");
         is("none lawful", y.against(), -1);
     }
 
@@ -414,30 +394,30 @@ public final class PromisesTest {
         LacedHoles x = new LacedHoles();
         int[][] due = {{14, 0, 0}, {13, 1, 1000}, {12, 1, 2000}, {11, -1, 3000}, {9999, 0, 0}};
         for (int[] row : due) {
-            boot(x, RECTANGLE + "lace " + row[0] + ";");
+            Texts.boot(x, RECTANGLE + "lace " + row[0] + ";");
             is("leave at " + row[0], x.leave(), row[1]);
             is("too short at " + row[0], x.tooShort(), row[2]);
         }
-        boot(x, "rows 3 3;apart 1 99;lace 199;");
+        Texts.boot(x, "rows 3 3;apart 1 99;lace 199;");
         is("leave: no 3 do", x.leave(), -1);
-        boot(x, "rows 3 3;apart 1 99;lace 200;");
+        Texts.boot(x, "rows 3 3;apart 1 99;lace 200;");
         is("leave: an end, that of the least bits", x.leave(), 1 + 8);
-        boot(x, "rows 4 1;apart 99 1;lace 6;");
+        Texts.boot(x, "rows 4 1;apart 99 1;lace 6;");
         is("leave the right one", x.leave(), 16);
-        boot(x, "rows 4 1;apart 99 1;lace 200;");
+        Texts.boot(x, "rows 4 1;apart 99 1;lace 200;");
         is("leave one rather than two of less bits", x.leave(), 16);
-        boot(x, "rows 4 1;apart 99 1;lace 6;torn 4;");
+        Texts.boot(x, "rows 4 1;apart 99 1;lace 6;torn 4;");
         is("torn ones are not left out", x.leave(), 0);
-        boot(x, "rows 2 2;apart 1 1;lace 1;");
+        Texts.boot(x, "rows 2 2;apart 1 1;lace 1;");
         is("leave: no set", x.leave(), -1);
-        boot(x, "rows 1 1;");
+        Texts.boot(x, "rows 1 1;");
         is("leave: 2 holes", x.leave(), -1);
         promise = 17;
         is("too short: 2 holes", x.tooShort(), -1);
-        boot(x, "rows 3 3;law 2;");
+        Texts.boot(x, "rows 3 3;law 2;");
         is("too short: none lawful", x.tooShort(), -1);
         is("leave by law", x.leave(), 1 + 8);
-        boot(x, "rows 2 1;apart 1 1;lace 3;");
+        Texts.boot(x, "rows 2 1;apart 1 1;lace 3;");
         is("too short: 2 and a root of 2 by 3", x.tooShort(), 414);
     }
 
@@ -445,47 +425,47 @@ public final class PromisesTest {
         promise = 18;
         LacedHoles x = booted(RECTANGLE);
         is("alike", x.alike(), 3);
-        boot(x, RECTANGLE + "law 2;");
+        Texts.boot(x, RECTANGLE + "law 2;");
         is("alike by law", x.alike(), 2);
-        boot(x, "rows 1 1;");
+        Texts.boot(x, "rows 1 1;");
         is("alike of 2", x.alike(), 0);
-        boot(x, "rows 3 3;law 2;");
+        Texts.boot(x, "rows 3 3;law 2;");
         is("alike: no lawful one", x.alike(), 0);
-        boot(x, "rows 3 3;");
+        Texts.boot(x, "rows 3 3;");
         is("alike of 6", x.alike(), 24);
-        boot(x, "rows 4 4;");
+        Texts.boot(x, "rows 4 4;");
         is("alike of 8", x.alike(), 720);
-        boot(x, "rows 5 5;");
+        Texts.boot(x, "rows 5 5;");
         is("alike of 10", x.alike(), -1);
-        boot(x, "rows 3 2;");
+        Texts.boot(x, "rows 3 2;");
         is("alike of unlike rows", x.alike(), -1);
-        boot(x, "rows 3 3;torn 0;torn 3;");
+        Texts.boot(x, "rows 3 3;torn 0;torn 3;");
         is("alike with torn ones", x.alike(), -1);
         promise = 19;
         noWay("itself", x::itself);
-        way(x, "1 2 4");
+        Texts.way(x, "1 2 4");
         is("itself with torn ones", x.itself(), -1);
-        boot(x, "rows 6 6;");
-        way(x, "0 1 2 3 4 5 11 10 9 8 7 6");
+        Texts.boot(x, "rows 6 6;");
+        Texts.way(x, "0 1 2 3 4 5 11 10 9 8 7 6");
         is("round about", x.itself(), 4);
-        way(x, "1 4 7 10");
+        Texts.way(x, "1 4 7 10");
         is("some holes", x.itself(), 4);
-        way(x, "0 1 6");
+        Texts.way(x, "0 1 6");
         is("a corner", x.itself(), 1);
-        way(x, "0 5 8");
+        Texts.way(x, "0 5 8");
         is("turned", x.itself(), 1);
-        way(x, "0 6 5 11");
+        Texts.way(x, "0 6 5 11");
         is("turned, mirrored", x.itself(), 4);
-        way(x, "0 1 7 11 10 4");
+        Texts.way(x, "0 1 7 11 10 4");
         is("only both", x.itself(), 2);
-        way(x, "0 1 11 10");
+        Texts.way(x, "0 1 11 10");
         is("by both", x.itself(), 2);
-        way(x, "0 1 7 6");
+        Texts.way(x, "0 1 7 6");
         is("by mirror", x.itself(), 2);
-        way(x, "0 1 4 5");
+        Texts.way(x, "0 1 4 5");
         is("by turning", x.itself(), 2);
-        boot(x, "rows 6 5;");
-        way(x, "0 1 4 5");
+        Texts.boot(x, "rows 6 5;");
+        Texts.way(x, "0 1 4 5");
         is("unlike rows", x.itself(), -1);
     }
 
@@ -500,22 +480,22 @@ public final class PromisesTest {
         is("none", x.two(0), -1);
         badArgument("no holes", () -> x.two(64));
         badArgument("all bits", () -> x.two(-1));
-        boot(x, "rows 4 3;apart 30 40;torn 3;law 1;");
+        Texts.boot(x, "rows 4 3;apart 30 40;torn 3;law 1;");
         badArgument("torn", () -> x.two(8));
         is("not lawful", x.two(7), -1);
         promise = 21;
         is("colours", x.colours(), 1 + 2 + 16);
-        boot(x, "rows 3 3;apart 30 40;");
+        Texts.boot(x, "rows 3 3;apart 30 40;");
         is("colours", x.colours(), 11);
-        boot(x, "rows 3 2;");
+        Texts.boot(x, "rows 3 2;");
         is("colours of 5", x.colours(), -1);
-        boot(x, "rows 3 4;apart 1 99;torn 4;");
+        Texts.boot(x, "rows 3 4;apart 1 99;torn 4;");
         is("two rows are nearer than ends", x.colours() >= 0 ? 1 : 0, 1);
-        boot(x, "rows 3 4;apart 99 1;");
+        Texts.boot(x, "rows 3 4;apart 99 1;");
         is("half of 7, cut", x.colours(), 7);
-        boot(x, "rows 4 3;apart 99 1;");
+        Texts.boot(x, "rows 4 3;apart 99 1;");
         is("half of 7, cut", x.colours(), 112);
-        boot(x, "rows 3 3;law 2;");
+        Texts.boot(x, "rows 3 3;law 2;");
         is("none lawful", x.colours(), -1);
     }
 
@@ -535,19 +515,19 @@ public final class PromisesTest {
         is("blind", x.blind(), 2);
         is("blind again", x.blind(), 0);
         is("see anew", x.see(6, 0), 1);
-        boot(x, "rows 6 6;");
+        Texts.boot(x, "rows 6 6;");
         for (int i = 0; i < 6; i++) {
             is("see", x.see(i, i + 6), i + 1);
         }
         is("a seventh", x.see(0, 1), -1);
         promise = 24;
         is("within 12", x.within(), 3840);
-        boot(x, "rows 3 3;law 2;");
+        Texts.boot(x, "rows 3 3;law 2;");
         is("within nothing", x.within(), 0);
         x.see(0, 3);
         is("within one span", x.within(), 0);
         promise = 25;
-        way(x, "1 2 3");
+        Texts.way(x, "1 2 3");
         is("guess of one span", x.guess(), -1);
         holesAre(x, 1, 2, 3);
         x.see(1, 4);
@@ -558,28 +538,28 @@ public final class PromisesTest {
         x.see(2, 5);
         is("within three by law 2", x.within(), 0);
         is("guess of three by law 2", x.guess(), -1);
-        boot(x, "rows 3 3;");
+        Texts.boot(x, "rows 3 3;");
         x.see(1, 0);
         x.see(4, 2);
         is("within by no law", x.within(), 2);
         x.guess();
         holesAre(x, 0, 1, 2, 4);
         promise = 26;
-        boot(x, RECTANGLE);
+        Texts.boot(x, RECTANGLE);
         noWay("seen", x::seen);
-        way(x, "0 1 3 2");
+        Texts.way(x, "0 1 3 2");
         is("nothing seen", x.seen(), 0);
         x.see(0, 1);
         is("half of it seen", x.seen(), 0);
         x.see(3, 2);
         is("seen by the first", x.seen(), 1);
-        way(x, "1 3 2 0");
+        Texts.way(x, "1 3 2 0");
         is("seen by the second", x.seen(), 2);
-        way(x, "3 2 0 1");
+        Texts.way(x, "3 2 0 1");
         is("seen by the first", x.seen(), 1);
-        way(x, "0 2 1 3");
+        Texts.way(x, "0 2 1 3");
         is("not seen", x.seen(), 0);
-        way(x, "0 1 2");
+        Texts.way(x, "0 1 2");
         is("odd", x.seen(), 0);
     }
 
@@ -587,7 +567,7 @@ public final class PromisesTest {
         promise = 27;
         LacedHoles x = booted(RECTANGLE);
         noWay("knot", () -> x.knot(-1, 2));
-        way(x, "0 1 3 2");
+        Texts.way(x, "0 1 3 2");
         badArgument("knot(-1, 0)", () -> x.knot(-1, 0));
         badArgument("knot(1000, 0)", () -> x.knot(1000, 0));
         badArgument("knot(0, 2)", () -> x.knot(0, 2));
@@ -597,11 +577,11 @@ public final class PromisesTest {
             is("first at " + row[0], x.knot(row[0], 0), row[1]);
             is("last at " + row[0], x.knot(row[0], 1), row[2]);
         }
-        way(x, "1 3 2 0");
+        Texts.way(x, "1 3 2 0");
         is("first from 1 on", x.knot(3, 0), 1);
         is("last from 1 on", x.knot(3, 1), 3);
         is("first from 1 on", x.knot(4, 0), 0);
-        way(x, "0 2 1");
+        Texts.way(x, "0 2 1");
         is("the midst within a span", x.knot(0, 0), 1);
         is("the midst within a span", x.knot(0, 1), 1);
     }
@@ -615,12 +595,12 @@ public final class PromisesTest {
         promise = 29;
         noWay("keep", x::keep);
         promise = 28;
-        way(x, "0 2 1");
+        Texts.way(x, "0 2 1");
         is("wear at an end", x.wear(0), 2);
         is("wear across", x.wear(2), 1);
         is("wear of none", x.wear(3), 0);
-        boot(x, "rows 6 6;");
-        way(x, "0 1 2");
+        Texts.boot(x, "rows 6 6;");
+        Texts.way(x, "0 1 2");
         is("wear along", x.wear(1), 3);
         promise = 29;
         for (int i = 1; i <= 4; i++) {
@@ -641,27 +621,27 @@ public final class PromisesTest {
         x.keep();
         is("one for 12 weeks", x.weeks(12, 0), 36);
         is("its row", x.weeks(12, 1), 12);
-        way(x, "6 7 8");
+        Texts.way(x, "6 7 8");
         x.keep();
         is("two for 12 weeks", x.weeks(12, 0), 18);
         is("their row", x.weeks(12, 1), 606);
         is("two for 3 weeks", x.weeks(3, 0), 6);
         is("their row", x.weeks(3, 1), 102);
-        way(x, "3 4 5");
+        Texts.way(x, "3 4 5");
         x.keep();
-        way(x, "9 10 11");
+        Texts.way(x, "9 10 11");
         x.keep();
         is("four for 10 weeks", x.weeks(10, 0), 9);
         is("their row", x.weeks(10, 1), 1030303);
         is("four for 1 week", x.weeks(1, 1), 1);
         x.drop();
-        way(x, "0 6 1 7");
+        Texts.way(x, "0 6 1 7");
         x.keep();
-        way(x, "0 1 7 6");
+        Texts.way(x, "0 1 7 6");
         x.keep();
         is("all weeks for the first", x.weeks(3, 1), 300);
         is("its wear", x.weeks(3, 0), 3);
-        way(x, "0 6 2");
+        Texts.way(x, "0 6 2");
         is("weeks ask the kept ones alone", x.weeks(3, 1), 300);
     }
 
@@ -673,22 +653,22 @@ public final class PromisesTest {
             is("draw " + row[0], x.draw(row[0]), 4);
             is("number by " + row[0], x.number(), row[1]);
         }
-        boot(x, "rows 2 1;");
+        Texts.boot(x, "rows 2 1;");
         is("draw of 3", x.draw(99), 3);
-        boot(x, "rows 1 1;");
+        Texts.boot(x, "rows 1 1;");
         is("draw of 2", x.draw(1), -1);
-        boot(x, "rows 2 1;law 2;");
-        way(x, "0 1 2");
+        Texts.boot(x, "rows 2 1;law 2;");
+        Texts.way(x, "0 1 2");
         is("draw of none lawful", x.draw(1), -1);
         is("the way stays", x.told(7), 3);
         promise = 33;
-        boot(x, RECTANGLE);
+        Texts.boot(x, RECTANGLE);
         is("image without a way", x.image(), 1);
-        way(x, "0 1 2");
+        Texts.way(x, "0 1 2");
         x.see(0, 2);
         x.keep();
         is("image", x.image(), 2);
-        way(x, "3 2 1 0");
+        Texts.way(x, "3 2 1 0");
         x.see(1, 3);
         x.keep();
         is("image", x.image(), 3);
@@ -696,7 +676,7 @@ public final class PromisesTest {
         promise = 34;
         x.blind();
         x.drop();
-        way(x, "1 0 3");
+        Texts.way(x, "1 0 3");
         is("restore", x.restore(), 2);
         holesAre(x, 3, 2, 1, 0);
         is("kept", x.sums(0), 2);
@@ -728,14 +708,14 @@ public final class PromisesTest {
         LacedHoles x = booted("rows 6 6;apart 12 5;lace 13;");
         is("a whole root", x.span(0, 7), 13000);
         is("aslant by 7", x.span(0, 11), 27730);
-        way(x, "0 1 7");
+        Texts.way(x, "0 1 7");
         is("5, 12 and 13", x.measure(0), 30000);
         is("12 by 13 and 1", x.measure(1), 1923076);
-        boot(x, "rows 6 6;apart 12 5;lace 30;");
-        way(x, "7 1 0");
+        Texts.boot(x, "rows 6 6;apart 12 5;lace 30;");
+        Texts.way(x, "7 1 0");
         is("just so long", x.measure(4), 1);
         // Roots of 2, 8 and 18 hang together: ways of other spans are just as long.
-        boot(x, "rows 6 6;apart 7 1;");
+        Texts.boot(x, "rows 6 6;apart 7 1;");
         x.best(4095, 1);
         long first = x.number();
         long length = x.measure(0);
