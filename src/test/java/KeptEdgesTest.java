@@ -103,6 +103,10 @@ public final class KeptEdgesTest extends Edges {
         refused(22, NOT_SEEN, "the first HOLE is torn", laden(), see(8, 0), NONE);
         refused(22, NOT_SEEN, "the second HOLE is torn", laden(), see(0, 8), NONE);
         refused(22, NOT_SEEN, "both are torn", on("torn 0;torn 1;"), see(0, 1), NONE);
+        String pairs = "(pairs of HOLES, 6 at most, no HOLE twice)";
+        answers(22, pairs, "the 6th", pictured("", 0, 1, 2, 3, 4, 5, 6, 7, 8, 9), see(11, 10), "6");
+        refused(22, pairs, "a 7th", pictured("", 0, 1, 2, 3, 4, 5, 6, 7, 8, 9, 10, 11), see(2, 9), NONE);
+        refused(22, pairs, "a HOLE twice", pictured("", 0, 1, 2, 3), see(0, 4), NONE);
         refused(22, NOT_SEEN, "there are 6", pictured("", 0, 6, 1, 7, 2, 8, 3, 9, 4, 10, 5, 11), see(0, 1), NONE);
         answers(22, NOT_SEEN, "behind a refused one", with(laden(), see(0, 8)), see(0, 2), "3");
         answers(22, NOT_SEEN, "behind a refused one, its other HOLE", with(laden(), see(3, 0)), see(0, 2), "3");

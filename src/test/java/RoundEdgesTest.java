@@ -286,6 +286,9 @@ public final class RoundEdgesTest extends Edges {
         answers(18, ALIKE, "six HOLES by law 1", on("rows 3 3;law 1;"), LacedHoles::alike, "16");
         answers(18, ALIKE, "eight HOLES by law 1", on("rows 4 4;law 1;"), LacedHoles::alike, "328");
         answers(18, ALIKE, "eight HOLES by law 2", on("rows 4 4;law 2;"), LacedHoles::alike, "54");
+        String one = "ROUNDS are ALIKE, if one so becomes the other";
+        answers(18, one, "the four HOLES' three are each alone", on("rows 2 2;"), LacedHoles::alike, "3");
+        answers(18, one, "of the six HOLES' sixty", on("rows 3 3;"), LacedHoles::alike, "24");
         answers(18, ALIKE, "asked again", with(on("rows 3 3;"), LacedHoles::alike), LacedHoles::alike, "24");
         answers(18, ALIKE, "a PICTURE does not count",
             with(with(on("rows 3 3;"), x -> x.see(0, 1) + x.see(2, 3)), LacedHoles::guess), LacedHoles::alike, "24");

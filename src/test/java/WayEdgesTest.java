@@ -63,6 +63,10 @@ public final class WayEdgesTest extends Edges {
         answers(7, lie, "N is on the right, at its top", on("rows 2 3;apart 3 4;"), x -> x.span(0, 2), "3000");
         answers(7, lie, "N is as far from N less 1 as its row's place", on("rows 2 3;apart 3 4;"), x -> x.span(1, 2), "5000");
         answers(7, lie, "the last on the right", on("rows 2 3;apart 3 4;"), x -> x.span(1, 4), "5000");
+        String wide = "the i-th of a row lies at i times B along, the right row at A across";
+        answers(7, wide, "the least A", on("apart 1 50;"), x -> x.span(5, 11), "1000");
+        answers(7, wide, "the greatest A", on("apart 99 50;"), x -> x.span(11, 5), "99000");
+        answers(7, wide, "A is nothing to a SPAN along, on the right", on("rows 2 3;apart 99 7;"), x -> x.span(2, 4), "14000");
         answers(7, "the i-th of a row lies at i times B along", "0 and the last", on("apart 1 99;"), x -> x.span(0, 5), "495000");
     }
 
@@ -128,6 +132,12 @@ public final class WayEdgesTest extends Edges {
         refused(10, ANOTHER, "one more than the last", laden(), x -> x.measure(5), ARGUMENT);
         refused(10, ANOTHER, "the least number", laden(), x -> x.measure(Integer.MIN_VALUE), ARGUMENT);
         refused(10, ANOTHER, "the greatest number", laden(), x -> x.measure(Integer.MAX_VALUE), ARGUMENT);
+        String round = "goes through each of them once, and home to the first";
+        answers(10, round, "the fewest HOLES, LENGTH", on(RECTANGLE, "0 1 2"), x -> x.measure(0), "12000");
+        answers(10, round, "the fewest HOLES, PULL", on(RECTANGLE, "0 2 1"), x -> x.measure(1), "1600000");
+        answers(10, round, "the most HOLES", on("", "0 1 2 3 4 5 11 10 9 8 7 6"), x -> x.measure(0), "260000");
+        answers(10, "PULL of a ROUND: of its SPANS across A by their LENGTH, together", "all across", on(RECTANGLE, "0 2 1 3"),
+            x -> x.measure(1), "3200000");
         answers(10, CUT, "the SPAN home counts", on(RECTANGLE, "0 1 2"), x -> x.measure(0), "12000");
         answers(10, CUT, "what is cut is the sum, not each", on("", "0 7 1 6"), x -> x.measure(0), "132111");
         answers(10, CUT, "a whole sum", on("apart 12 5;", "0 7 1 6"), x -> x.measure(0), "50000");
@@ -191,6 +201,9 @@ public final class WayEdgesTest extends Edges {
         refused(19, NO_WAY, "unlike rows", on("rows 2 3;"), LacedHoles::itself, NO_SUCH);
         refused(19, NO_WAY, "a torn HOLE", on("torn 2;"), LacedHoles::itself, NO_SUCH);
         answers(19, ITSELF, "none alone", on("", "0 1 6"), LacedHoles::itself, "1");
+        String turned = "TURNED (each row's top is its end), MIRRORED (rows change), both, or none make a ROUND of another one";
+        answers(19, turned, "the middle of a row of three stays", on("rows 3 3;", "1 3 5"), LacedHoles::itself, "2");
+        answers(19, turned, "the shortest rows: mirrored", on("rows 2 2;", "0 3 1 2"), LacedHoles::itself, "4");
         answers(19, ITSELF, "by turning", on("", "0 1 4 5"), LacedHoles::itself, "2");
         answers(19, ITSELF, "by mirroring", on("", "0 1 7 6"), LacedHoles::itself, "2");
         answers(19, ITSELF, "by both together", on("", "0 1 11 10"), LacedHoles::itself, "2");
@@ -221,6 +234,10 @@ public final class WayEdgesTest extends Edges {
         refused(26, NO_WAY, "a PICTURE", with(fresh(), x -> x.see(0, 1)), LacedHoles::seen, NO_SUCH);
         answers(26, SEEN, "by its 1st", pictured("0 1 4 3", 0, 1, 3, 4), LacedHoles::seen, "1");
         answers(26, SEEN, "by its 2nd, the one home among them", pictured("0 1 4 3", 3, 0, 4, 1), LacedHoles::seen, "2");
+        String second = "the 1st, 3rd, .. of it as told, or else the 2nd, 4th, ...";
+        answers(26, second, "the 1st, 3rd, 5th", pictured("0 1 2 5 4 3", 4, 3, 2, 5, 1, 0), LacedHoles::seen, "1");
+        answers(26, second, "the 2nd, 4th, 6th", pictured("0 1 2 5 4 3", 1, 2, 4, 5, 0, 3), LacedHoles::seen, "2");
+        answers(26, second, "the 1st, 3rd, but not the 5th", pictured("0 1 2 5 4 3", 0, 1, 2, 5), LacedHoles::seen, "0");
         answers(26, FROM_FIRST, "one HOLE on, it is by its 2nd", pictured("1 4 3 0", 0, 1, 3, 4), LacedHoles::seen, "2");
         answers(26, FROM_FIRST, "one HOLE on, it is by its 1st", pictured("1 4 3 0", 3, 0, 4, 1), LacedHoles::seen, "1");
         answers(26, FROM_FIRST, "the other direction", pictured("0 3 4 1", 0, 1, 3, 4), LacedHoles::seen, "2");
@@ -268,6 +285,9 @@ public final class WayEdgesTest extends Edges {
             answers(27, KNOT, edge + ", the last", on(RECTANGLE, "1 2 3"), x -> x.knot(row[0], 1), "" + row[2]);
         }
         answers(27, KNOT, "the SPAN home alone: more than half of all", on("rows 1 3;apart 1 99;", "0 1 3"), x -> x.knot(0, 0), "1");
+        String along = "from the midst of its LENGTH, along the lace: the first, the last";
+        answers(27, along, "a SPAN near it as one sees, far by the lace: the first", on("apart 1 50;", "0 2 1 8 7 6"), x -> x.knot(10, 0), "1");
+        answers(27, along, "a SPAN near it as one sees, far by the lace: the last", on("apart 1 50;", "0 2 1 8 7 6"), x -> x.knot(10, 1), "2");
         answers(27, FROM_FIRST, "one HOLE on", on(RECTANGLE, "1 3 2 0"), x -> x.knot(3, 0) * 10 + x.knot(3, 1), "13");
     }
 
